@@ -106,6 +106,18 @@ public final class PromisesTest {
         dueRow(wrap, 2, 10, 0, Integer.MIN_VALUE);
     }
 
+    private static void editAllRows() {
+        promise = "promise 2, all rows";
+        SchemaTwins t = fourRows();
+        due("ADD", t.edit(0, ADD, 6), 4);
+        due("SHIFT 2", t.edit(4, what(SHIFT, 2, 0), 1), 5);
+        int[] keys = {0, 7, 40, 99};
+        for (int i = 0; i < keys.length; i++) {
+            dueRow(t, 4, keys[i], 10 * i + 10, keys[i], 6);
+            dueRow(t, 5, keys[i], 10 * i + 10, keys[i], 7);
+        }
+    }
+
     private static void editHiddenRows() {
         promise = "promise 2, rows that are not shown";
         SchemaTwins t = oneRow(3, 4);
@@ -171,6 +183,7 @@ public final class PromisesTest {
         due("v before FULL", t.edit(8, ADD, 0), BAD);
         due("what before FULL", t.edit(0, 512, 0), BAD);
         due("what below 0 before FULL", t.edit(0, -1, 0), BAD);
+        due("FULL at the greatest what", t.edit(0, 511, 0), FULL);
         due("columns(7)", t.columns(7), 5);
         due("columns(8)", t.columns(8), BAD);
     }
@@ -348,6 +361,44 @@ public final class PromisesTest {
         dueRow(t, 1, 2, 1, 2, 7);
     }
 
+    /** Three columns are added, then one of the five is dropped, and so on to the eighth version. */
+    private static SchemaTwins longChain() {
+        SchemaTwins t = new SchemaTwins();
+        due("ADD", t.edit(0, ADD, 1), 1);
+        due("ADD", t.edit(1, ADD, 2), 2);
+        due("ADD", t.edit(2, ADD, 3), 3);
+        due("DROP 4", t.edit(3, what(DROP, 4, 0), 4), 4);
+        due("SUM 3 0", t.edit(4, what(SUM, 3, 0), 0), 5);
+        due("EXCHANGE 0 3", t.edit(5, what(EXCHANGE, 0, 3), 0), 6);
+        due("SHIFT 0", t.edit(6, what(SHIFT, 0, 0), 1000), 7);
+        return t;
+    }
+
+    private static void updateLongChain() {
+        promise = "promise 7, eight versions in a row";
+        SchemaTwins t = longChain();
+        draft(t, 5000, 20, 30, 40);
+        due("insert(7, 1)", t.insert(7, 1), 1);
+        dueRow(t, 6, 1, 4000, 20, 30, 40);
+        dueRow(t, 5, 1, 40, 20, 30, 4000);
+        dueRow(t, 4, 1, 40, 20, 30, 3960);
+        dueRow(t, 3, 1, 40, 20, 30, 3960, 4);
+        dueRow(t, 0, 1, 40, 20);
+        due("update(3, 1, 4, 77)", t.update(3, 1, 4, 77), 1);
+        due("update(7, 1, 3, 50)", t.update(7, 1, 3, 50), 1);
+        dueRow(t, 7, 1, 5000, 20, 30, 50);
+        dueRow(t, 6, 1, 4000, 20, 30, 50);
+        dueRow(t, 5, 1, 50, 20, 30, 4000);
+        dueRow(t, 4, 1, 50, 20, 30, 3950);
+        dueRow(t, 3, 1, 50, 20, 30, 3950, 77);
+        dueRow(t, 2, 1, 50, 20, 30, 3950);
+        dueRow(t, 1, 1, 50, 20, 30);
+        dueRow(t, 0, 1, 50, 20);
+        due("update(0, 1, 0, 60)", t.update(0, 1, 0, 60), 1);
+        dueRow(t, 3, 1, 60, 20, 30, 3950, 77);
+        dueRow(t, 7, 1, 5010, 20, 30, 60);
+    }
+
     private static void updateRefusals() {
         promise = "promise 7, refusals";
         SchemaTwins t = oneRow(5, 6);
@@ -467,10 +518,10 @@ public final class PromisesTest {
         due("a version that was taken away", t.value(2, 10, 2), 0);
     }
 
-    /** Rows 3, 7, 40 and 99 with 10, 20, 30 and 40 in column 0, the row's key in column 1. */
+    /** Rows 0, 7, 40 and 99 with 10, 20, 30 and 40 in column 0, the row's key in column 1. */
     private static SchemaTwins fourRows() {
         SchemaTwins t = new SchemaTwins();
-        int[] keys = {40, 3, 99, 7};
+        int[] keys = {40, 0, 99, 7};
         int[] firsts = {30, 10, 40, 20};
         for (int i = 0; i < keys.length; i++) {
             draft(t, firsts[i], keys[i]);
@@ -498,7 +549,7 @@ public final class PromisesTest {
         promise = "promise 12";
         SchemaTwins t = fourRows();
         int[] firsts = {100, 90, 40, 0, 0};
-        int[] seconds = {149, 146, 99, 0, 0};
+        int[] seconds = {146, 146, 99, 0, 0};
         for (int v = 0; v < firsts.length; v++) {
             due("sum(" + v + ", 0)", t.sum(v, 0), firsts[v]);
             due("sum(" + v + ", 1)", t.sum(v, 1), seconds[v]);
@@ -508,14 +559,14 @@ public final class PromisesTest {
             due("sum(" + far + ", 0)", t.sum(far, 0), 0);
             due("sum(0, " + far + ")", t.sum(0, far), 0);
         }
-        due("update(0, 3, 0, max)", t.update(0, 3, 0, Integer.MAX_VALUE), 1);
+        due("update(0, 0, 0, max)", t.update(0, 0, 0, Integer.MAX_VALUE), 1);
         due("the sum wraps", t.sum(0, 0), Integer.MAX_VALUE + 90);
     }
 
     private static void key() {
         promise = "promise 13";
         SchemaTwins t = fourRows();
-        int[][] want = {{3, 7, 40, 99}, {7, 40, 99}, {99}, {}};
+        int[][] want = {{0, 7, 40, 99}, {7, 40, 99}, {99}, {}};
         for (int v = 0; v < want.length; v++) {
             for (int k = 0; k < want[v].length; k++) {
                 due("key(" + v + ", " + k + ")", t.key(v, k), want[v][k]);
@@ -532,8 +583,9 @@ public final class PromisesTest {
         }
         due("delete(0, 7)", t.delete(0, 7), 3);
         due("key(0, 1)", t.key(0, 1), 40);
-        due("insert(0, 0)", t.insert(0, 0), 4);
+        due("insert(0, 1)", t.insert(0, 1), 4);
         due("key(0, 0)", t.key(0, 0), 0);
+        due("key(0, 1)", t.key(0, 1), 1);
     }
 
     private static void home() {
@@ -565,6 +617,7 @@ public final class PromisesTest {
     public static void main(String[] args) {
         newObject();
         editValues();
+        editAllRows();
         editHiddenRows();
         editRefusals();
         editLimits();
@@ -575,6 +628,7 @@ public final class PromisesTest {
         insertRefusals();
         insertAgain();
         updateSpreads();
+        updateLongChain();
         updateRefusals();
         delete();
         shown();
