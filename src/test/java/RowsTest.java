@@ -220,6 +220,21 @@ public final class RowsTest extends Boundaries {
         due(t.insert(1, 50), HIDDEN);
     }
 
+    private static void insertRefusedLeavesTheDraft() {
+        Table t = twelveRows();
+        due(t.edit(0, ADD, 0), 1);
+        due(t.edit(1, ADD, 0), 2);
+        due(t.edit(2, ADD, 0), 3);
+        t.drafts(1, 2, 3, 4, 5);
+        due(t.insert(4, 50), BAD);
+        due(t.insert(3, 100), BAD);
+        due(t.insert(3, 54), THERE);
+        due(t.insert(3, 50), FULL);
+        due(t.delete(3, 54), 11);
+        due(t.insert(3, 50), 12);
+        t.dueRow(3, 50, 1, 2, 3, 4, 5);
+    }
+
     private static void insertAnswersTheNumberOfRows() {
         Table t = new Table();
         due(t.edit(0, only(0), 5), 1);
@@ -556,6 +571,7 @@ public final class RowsTest extends Boundaries {
         test("6: THERE before FULL", RowsTest::insertThereBeforeFull);
         test("6: THERE before HIDDEN", RowsTest::insertThereBeforeHidden);
         test("6: FULL before HIDDEN", RowsTest::insertFullBeforeHidden);
+        test("6: BAD, THERE and FULL, 'Then nothing changes'", RowsTest::insertRefusedLeavesTheDraft);
         test("6: 'Else answers the number of rows'", RowsTest::insertAnswersTheNumberOfRows);
         test("6: 'whose values in version v are those of the draft'", RowsTest::insertTakesNoMoreThanItsColumns);
         test("6: 'A new row', with a key that was there before", RowsTest::insertOfAKeyThatWasThere);

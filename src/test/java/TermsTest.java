@@ -158,6 +158,7 @@ public final class TermsTest extends Boundaries {
             for (int c = 0; c < 4; c++) {
                 due(t.value(4, 1, c), c < x ? 10 + c : 11 + c);
                 due(t.value(3, 2, c < x ? c : c + 1), 10 + c);
+                due(t.value(4, 2, c), 10 + c);
             }
             due(t.value(3, 2, x), 99);
             due(t.columns(4), 4);
@@ -174,6 +175,7 @@ public final class TermsTest extends Boundaries {
             for (int c = 0; c < 5; c++) {
                 due(t.value(4, 1, c), c == x ? 1010 + c : 10 + c);
                 due(t.value(3, 2, c), c == x ? c - 990 : 10 + c);
+                due(t.value(4, 2, c), 10 + c);
             }
         }
     }
@@ -207,6 +209,7 @@ public final class TermsTest extends Boundaries {
                     int from = c == x ? z : c == z ? x : c;
                     due(t.value(4, 1, c), 10 + from);
                     due(t.value(3, 2, c), 10 + from);
+                    due(t.value(4, 2, c), 10 + c);
                 }
             }
         }
@@ -236,6 +239,7 @@ public final class TermsTest extends Boundaries {
                     for (int c = 0; c < 5; c++) {
                         due(t.value(4, 1, c), c == x ? drafted[x] + drafted[z] : drafted[c]);
                         due(t.value(3, 2, c), c == x ? drafted[x] - drafted[z] : drafted[c]);
+                        due(t.value(4, 2, c), drafted[c]);
                     }
                 }
             }
@@ -524,9 +528,9 @@ public final class TermsTest extends Boundaries {
         Table t = oneRow(5, 6);
         due(t.edit(0, ADD, 7), 1);
         for (int i = 0; i < 507; i++) {
-            due(t.update(1, 10, i % 3, i), 1);
+            due(t.update(1, 10, (i + 1) % 3, i), 1);
         }
-        due(t.sum(0, 0), 504);
+        due(t.sum(0, 0), 506);
         due(t.calls(), CALLS);
     }
 
@@ -540,8 +544,8 @@ public final class TermsTest extends Boundaries {
     }
 
     public static void main(String[] args) {
-        test("'An object is used for at most 512 calls': rows put in and taken out", TermsTest::lastCallOfChanges);
-        test("'An object is used for at most 512 calls': versions made and taken away", TermsTest::lastCallOfEdits);
+        test("'An object is used for at most 512 calls': rows", TermsTest::lastCallOfChanges);
+        test("'An object is used for at most 512 calls': versions", TermsTest::lastCallOfEdits);
         test("'An object is used for at most 512 calls': updates", TermsTest::lastCallOfUpdates);
         test("'An object is used for at most 512 calls': refusals", TermsTest::lastCallOfRefusals);
         test("'up to 8 VERSIONS, numbered from 0'", TermsTest::versionsUpToEight);
