@@ -1,7 +1,8 @@
 import java.util.Arrays;
 
-// Every table of up to four versions, a row put in and changed through each of them: the values, as the table
-// itself tells them, must fit by the edits. No value is worked out here, so no way of working them out is shared.
+// Every choice of parents and edits for up to four versions (one number y for each edit, no row hidden), a row put
+// in and changed through each version: the values, as the table itself tells them, must fit by the edits.
+// No value is worked out here, so no way of working them out is shared with the program.
 public final class FitTest {
     private static final int EDITS = 3;
     private static final int ROW = 60;
